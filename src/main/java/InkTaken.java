@@ -183,6 +183,7 @@ public final class InkTaken {
     public int pair(int what) {
         if (!now.told) return STATE;
         if (!isBelow(what, 2)) return BAD;
+        foretold.weighAll(now);
         int two = foretold.bestPair(now);
         return what == 0 || two == NONE ? two : foretold.gainOf(two / HAND_ROOM, two % HAND_ROOM);
     }
@@ -221,6 +222,7 @@ public final class InkTaken {
         if (!now.told) return STATE;
         if (k < -1 || k >= HAND_ROOM) return BAD;
         if (k >= now.hands) return NONE;
+        foretold.weighAll(now);
         int best = foretold.bestOrder(now);
         return k < 0 ? foretold.sumOfOrder(now, best) : foretold.handInOrder(now, best, k);
     }
@@ -767,18 +769,16 @@ public final class InkTaken {
             return loss;
         }
 
-        /** LOSSES by all sets of HANDS, kept for PAIR and ORDER, which compare many of them. */
-        private void weighAll(Archive archive) {
+        /** LOSSES by all sets of HANDS: ahead of PAIR and ORDER, which compare many of them. */
+        void weighAll(Archive archive) {
             for (int set = 0; set < 1 << archive.hands; set++) losses[set] = lossBy(archive, set);
         }
 
-        /** As bestPair weighed it. */
         int gainOf(int one, int other) {
             return losses[1 << one | 1 << other] - losses[1 << one] - losses[1 << other];
         }
 
         int bestPair(Archive archive) {
-            weighAll(archive);
             int best = NONE;
             int most = 0;
             for (int one = 0; one < archive.hands; one++) {
@@ -847,7 +847,6 @@ public final class InkTaken {
 
         /** An order is a number of as many figures as HANDS, to the base HAND_ROOM: the first is the least. */
         int bestOrder(Archive archive) {
-            weighAll(archive);
             int best = 0;
             int most = -1;
             for (int order = 0; order < 1 << 2 * archive.hands; order++) {
@@ -864,7 +863,7 @@ public final class InkTaken {
             return order >> 2 * (archive.hands - 1 - k) & HAND_ROOM - 1;
         }
 
-        /** The LOSSES behind each, as bestOrder weighed them, added; -1: not every HAND comes once. */
+        /** The LOSSES behind each, added; -1: it is no order, as not every HAND comes once. */
         int sumOfOrder(Archive archive, int order) {
             int set = 0;
             int sum = 0;

@@ -162,6 +162,7 @@ public final class DoneTest {
     private static void placesAreBlack() {
         DUE.is("no archive comes ahead of BAD", new InkTaken().place(6, 0), InkTaken.STATE);
         InkTaken x = Due.told(FOUR);
+        DUE.is("copies of the first", x.place(0, 0), 1);
         DUE.is("copies", x.place(1, 0), 6);
         DUE.is("copies of none", x.place(5, 0), 0);
         DUE.is("black", x.place(1, 1), 1);
@@ -246,6 +247,20 @@ public final class DoneTest {
         DUE.is("the write and the first day stay", x.count(4), 1);
         DUE.is("the copy stays", x.count(2), 1);
         DUE.is("spent", x.count(5), 1);
+        x.write(0, 0, 1);
+        x.days(10);
+        x.recall(0);
+        x.days(12);
+        x.recall(1);
+        x.days(2);
+        DUE.is("24 acts", x.count(7), 24);
+        int[] white = {3, 3, 1, 1, 1, 1, 1, 1, 1, 1, 1, 1, 1, 1, 1, 0, 0, 0, 0, 0, 0, 0, 0, 0};
+        for (int i = 0; i < 24; i++) {
+            x.undo();
+            DUE.is("white " + i, x.copyOf(0, 4) + 2 * x.copyOf(1, 4), white[i]);
+        }
+        DUE.is("the copies stay", x.count(2), 2);
+        DUE.is("two days stay", x.count(4), 3);
     }
 
     private static void imagesKept() {
@@ -257,15 +272,17 @@ public final class DoneTest {
         DUE.is("restore -1", x.restore(-1), InkTaken.BAD);
         DUE.is("none kept", x.restore(1), InkTaken.STATE);
         Due.read(x, FOUR);
-        x.write(0, 0, 1);
         x.days(2);
+        x.write(0, 0, 1);
         DUE.is("image", x.image(1), 1);
         DUE.is("acts stay", x.count(7), 3);
         DUE.is("the other is not kept", x.restore(0), InkTaken.STATE);
         String kept = Due.seen(x);
         x.recall(1);
         x.write(5, 3, 2);
-        x.days(9);
+        x.days(3);
+        x.write(2, 2, 8);
+        x.days(5);
         DUE.is("image", x.image(0), 1);
         String later = Due.seen(x);
         Due.read(x, "i1,1;l9;");
@@ -280,7 +297,19 @@ public final class DoneTest {
         DUE.is("restore again", x.restore(1), 1);
         DUE.is("an image does not change", Due.seen(x), kept.replaceFirst(" 3 0 \\|", " 0 0 |"));
         DUE.is("its year is kept", x.hand(0, 1), 10);
-        DUE.is("its repentance is kept", x.ahead(6, 2), 4);
+        DUE.is("its repentance is kept", x.ahead(4, 2), 4);
+        DUE.is("none repents ahead of that", x.ahead(3, 2), 0);
+        Due.read(x, "i1,1;l9;w0,0,1;w0,0,1;w0,0,1;w0,0,1;w0,0,1;");
+        x.restore(1);
+        DUE.is("days of copies are kept", x.copyOf(4, 3), 2);
+        DUE.is("what was kept in one is not in the other", x.count(2), 5);
+        x.image(0);
+        x.days(1);
+        x.image(1);
+        x.restore(0);
+        DUE.is("kept anew", x.count(4), 2);
+        x.restore(1);
+        DUE.is("kept anew", x.count(4), 3);
     }
 
     private static void counts() {

@@ -50,6 +50,13 @@ public final class ForetoldTest {
         x.days(1);
         DUE.is("a scribe may no more", x.falls(7, 0), 0);
         DUE.is("an heir may", x.falls(15, 0), 4);
+        InkTaken late = Due.told("i3,9;s0;a1,0,1;");
+        late.days(9);
+        late.write(0, 0, 1);
+        late.days(3);
+        DUE.is("by its own day", late.falls(1, 0), 1);
+        late.days(1);
+        DUE.is("by its own day no more", late.falls(1, 0), 0);
     }
 
     private static void ransoms() {
@@ -77,6 +84,12 @@ public final class ForetoldTest {
         InkTaken last = Due.told("i9,9;s0;s0;s0;s0;w0,2,1;w0,3,1;a1,0,7;");
         DUE.is("the last", last.pair(0), 11);
         DUE.is("by how much", last.pair(1), 7);
+        InkTaken falling = Due.told("i9,9;s0;s0;s0;w0,0,1;w0,1,1;w1,0,1;w1,2,1;a1,0,9;a2,0,8;");
+        DUE.is("a lesser one comes later", falling.pair(0), 1);
+        DUE.is("by how much", falling.pair(1), 9);
+        InkTaken allLess = Due.told("i9,9;s0;s0;s0;w0,0,1;w1,1,1;w2,2,1;a3,0,7;a5,0,5;a6,0,6;");
+        DUE.is("the least less", allLess.pair(0), 2);
+        DUE.is("the least less", allLess.pair(1), -5);
         InkTaken one = Due.told("i9,9;s0;");
         DUE.is("there are not two", one.pair(0), InkTaken.NONE);
         DUE.is("there are not two", one.pair(1), InkTaken.NONE);
@@ -307,6 +320,12 @@ public final class ForetoldTest {
         DUE.is("as it repents", forgedOf(drunk, 3, -1), 0);
         DUE.is("behind it, though in its year", forgedOf(drunk, 4, -1), 1);
         DUE.is("a seal's on any day", forgedOf(drunk, -1, 0), 2);
+        drunk.write(0, 0, 1);
+        drunk.days(3);
+        DUE.is("by its own day", forgedOf(drunk, -1, -1, 9), 0);
+        DUE.is("by its own day", forgedOf(drunk, -1, -1, 8), 0);
+        drunk.days(1);
+        DUE.is("behind its own repentance", forgedOf(drunk, -1, -1, 10), 4);
         InkTaken none = Due.told("i1,1;s0;");
         none.row(0, 0, 0);
         DUE.is("no copies", none.forged(0, 0), 0);
@@ -368,6 +387,8 @@ public final class ForetoldTest {
         for (int seed = 1; seed < 60; seed++) yearsDue(text, 100, seed * seed * 11 + 1);
         for (int n = 0; n <= 100; n++) yearsDue(text, n, 999999 - n);
         yearsDue("i3,3;s0;a1,0,1;", 100, 7);
+        yearsDue("i99,99;s0;w0,0,1;a1,0,1;", 1, 1);
+        for (int n = 0; n <= 12; n++) yearsDue("i9,4;r0;s0;w0,0,1;w1,1,1;w0,0,1;a1,0,1;a2,0,1;", n, 5 + n);
         DUE.is("n -1", x.years(-1, 1, 0), InkTaken.BAD);
         DUE.is("n 101", x.years(101, 1, 0), InkTaken.BAD);
         DUE.is("seed 0", x.years(1, 0, 0), InkTaken.BAD);
