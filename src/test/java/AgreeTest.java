@@ -9,13 +9,15 @@ import java.util.Random;
 /** Runs by draws of a told seed: the class answers each call as the model does, whatever is asked of it. */
 public final class AgreeTest {
     private static final Due DUE = new Due();
-    private static final int RUNS = 1500, CALLS = 300;
+    /** An object is used for at most 512 calls: what later ones answer is free. */
+    private static final int RUNS = 1500, CALLS = 512;
     private static final int[] EDGES = {-1, 0, 1, 40, 41, 200, 201, Integer.MIN_VALUE, Integer.MAX_VALUE, -1000000};
 
     private static Random draws;
     private static InkTaken told;
     private static Model model;
     private static int run;
+    private static int called;
 
     public static void main(String[] args) throws ReflectiveOperationException {
         List<Method> calls = new ArrayList<>();
@@ -27,12 +29,37 @@ public final class AgreeTest {
         DUE.is("calls of the face", calls.size(), 36);
         for (run = 0; run < RUNS; run++) {
             draws = new Random(run);
-            told = new InkTaken();
-            model = new Model();
+            begin();
             if (run % 8 != 0) tell();
-            for (int k = 0; k < CALLS; k++) any(calls.get(draws.nextInt(calls.size())));
+            while (called < CALLS) any(calls.get(draws.nextInt(calls.size())));
         }
+        textsOneByteOff("i10,6;s3;l09;w1,0,4;a2,0,7;y63,1,20;");
         DUE.end();
+    }
+
+    private static void begin() {
+        told = new InkTaken();
+        model = new Model();
+        called = 0;
+    }
+
+    /** Every byte in place of every one, and between any two; every one left out. */
+    private static void textsOneByteOff(String text) throws ReflectiveOperationException {
+        for (int at = 0; at <= text.length(); at++) {
+            String ahead = text.substring(0, at);
+            String behind = text.substring(Math.min(at + 1, text.length()));
+            readAnew(ahead + behind);
+            for (int one = 0; one < 256; one++) {
+                readAnew(ahead + (char) one + behind);
+                readAnew(ahead + (char) one + text.substring(at));
+            }
+        }
+    }
+
+    private static void readAnew(String text) throws ReflectiveOperationException {
+        begin();
+        read(text);
+        same(Model.class.getDeclaredMethod("count", int.class), new Object[] {3});
     }
 
     private static void any(Method call) throws ReflectiveOperationException {
@@ -53,6 +80,8 @@ public final class AgreeTest {
     }
 
     private static void same(Method call, Object[] numbers) throws ReflectiveOperationException {
+        if (called >= CALLS) return;
+        called++;
         Object due = call.invoke(model, numbers);
         Object got;
         try {
@@ -92,6 +121,10 @@ public final class AgreeTest {
             text.append(',').append(draws.nextInt(i + 1)).append(',').append(draws.nextInt(21)).append(';');
         }
         if (draws.nextInt(3) == 0) spoil(text);
+        read(text.toString());
+    }
+
+    private static void read(String text) throws ReflectiveOperationException {
         Method feed = Model.class.getDeclaredMethod("feed", int.class);
         for (int i = 0; i < text.length(); i++) same(feed, new Object[] {(int) text.charAt(i)});
         same(Model.class.getDeclaredMethod("archive"), new Object[0]);
