@@ -33,6 +33,7 @@ public final class EdgesToldTest {
         deedsAtTheirEdge();
         deedsOnOneAnother();
         copiesFull();
+        onlyCopyUndone();
         actsFull();
         actsNone();
         daysAreActsEach();
@@ -549,6 +550,19 @@ public final class EdgesToldTest {
         is("there is room", x.write(1, 0, 2), 9);
         is("its place", x.copyOf(9, 0), 1);
         is("spent", x.count(5), 34);
+    }
+
+    /** "each can be undone": the only COPY too, of which nothing is left then */
+    private static void onlyCopyUndone() {
+        InkTaken x = Due.told("i9,9;s3;a1,0,1;");
+        is("written", x.write(0, 0, 1), 0);
+        is("undone", x.undo(), 0);
+        is("copies", x.count(2), 0);
+        is("spent", x.count(5), 0);
+        is("there is none", x.copyOf(0, 0), InkTaken.BAD);
+        is("its hand has none", x.hand(0, 2), 0);
+        is("its place is not black", x.place(0, 1), 0);
+        is("nor stands the deed", x.deed(0, 4), 0);
     }
 
     /** "24 at most are kept, of more the oldest is forgotten" */
