@@ -675,7 +675,7 @@ public final class EdgesToldTest {
     /** "Of the latest call with a ROW, or as(), that was not BAD, STATE, FULL" */
     private static void statusOfWhat() {
         is("there was none", new InkTaken().status(), 0);
-        for (int call = 0; call < 5; call++) {
+        for (int call = 0; call < 6; call++) {
             InkTaken x = Due.inUse();
             is("a finding", x.status(), 2);
             is("fine", withoutFinding(x, call), 0);
@@ -708,6 +708,7 @@ public final class EdgesToldTest {
             case 1: x.set(2, 0, 0); break;
             case 2: x.copy(1, 0, 1, 0, 0); break;
             case 3: x.forged(2, 0); break;
+            case 4: x.drop(1); break;
             default: x.as(3, 0); break;
         }
         return x.status();

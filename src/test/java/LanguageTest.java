@@ -5,9 +5,13 @@ import java.lang.reflect.Method;
 import java.lang.reflect.Modifier;
 import java.nio.file.Files;
 import java.nio.file.Path;
+import java.util.ArrayList;
 import java.util.List;
+import java.util.Map;
 import java.util.Set;
+import java.util.TreeMap;
 import java.util.TreeSet;
+import java.util.regex.Matcher;
 import java.util.regex.Pattern;
 
 /** The face of the class, and the rules of LANGUAGE.md that can be seen without a compiler. */
@@ -22,14 +26,20 @@ public final class LanguageTest {
     };
     private static final String[] FORBIDDEN = {
         "throw", "throws", "try", "catch", "finally", "synchronized", "assert", "var", "Object", "System\\.(?!arraycopy)",
-        "->", "::", "\\w+Exact", "protected", "native", "volatile", "transient", "hashCode", "toString"
+        "->", "::", "\\w+Exact", "protected", "native", "volatile", "transient", "hashCode", "toString", "double", "float"
     };
+    private static final String LIBRARY = "System\\.arraycopy|Arrays\\.(copyOf|copyOfRange|fill)|(Integer|Long|Math)\\.\\w+";
+    /** A method, a constructor or a class, at the blanks by which the source sets them in. */
+    private static final Pattern METHOD = Pattern.compile("( {4}| {8})(?!private static final class)(?:\\S.*? )?(\\w+)\\([^=]*\\) \\{");
 
     public static void main(String[] args) throws IOException {
         face();
         nested();
         words();
         lengths();
+        library();
+        objects();
+        depths();
         DUE.end();
     }
 
@@ -86,8 +96,12 @@ public final class LanguageTest {
         }
     }
 
+    private static String code() throws IOException {
+        return Files.readString(SOURCE).replaceAll("(?s)/\\*.*?\\*/", "").replaceAll("//[^\n]*", "");
+    }
+
     private static void words() throws IOException {
-        String source = Files.readString(SOURCE).replaceAll("(?s)/\\*.*?\\*/", "").replaceAll("//[^\n]*", "");
+        String source = code();
         for (String word : FORBIDDEN) {
             boolean letters = Character.isLetter(word.charAt(0));
             Pattern pattern = Pattern.compile(letters ? "\\b" + word + "\\b" : word);
@@ -96,6 +110,57 @@ public final class LanguageTest {
         for (char one : source.toCharArray()) {
             if (one > 126) DUE.is("sign " + (int) one, false, true);
         }
+    }
+
+    /** Rule 4: the library, and what is brought in of it. */
+    private static void library() throws IOException {
+        String source = code();
+        for (Matcher one = Pattern.compile("import ([^;]+);").matcher(source); one.find();) {
+            DUE.is("import of " + one.group(1), one.group(1).matches("java\\.util\\.(Arrays|ArrayList|List|Iterator)"), true);
+        }
+        Set<String> own = new TreeSet<>();
+        for (Class<?> one : InkTaken.class.getDeclaredClasses()) own.add(one.getSimpleName());
+        for (Matcher one = Pattern.compile("\\b([A-Z]\\w*)\\.(\\w+)\\(").matcher(source); one.find();) {
+            String called = one.group(1) + "." + one.group(2);
+            DUE.is(called + " is of the library", own.contains(one.group(1)) || called.matches(LIBRARY), true);
+        }
+    }
+
+    /** All that is made is made with an object: "new" stands in the first value of a field alone. */
+    private static void objects() throws IOException {
+        for (String line : code().split("\n")) {
+            if (!line.matches(".*\\bnew\\b.*")) continue;
+            DUE.is("made with the object: " + line.strip(), line.matches("\\s+(private )?final [\\w\\[\\]]+ \\w+ = new .*;"), true);
+        }
+    }
+
+    /** Rule 11: calls that are no recursion go at most eight deep. Methods of one name are taken as one. */
+    private static void depths() throws IOException {
+        Map<String, String> bodies = new TreeMap<>();
+        String name = "";
+        for (String line : code().split("\n")) {
+            Matcher begun = METHOD.matcher(line);
+            if (begun.matches()) name = begun.group(2);
+            else if (!name.isEmpty()) bodies.merge(name, line, (body, more) -> body + "\n" + more);
+        }
+        DUE.is("methods were found", bodies.size() > FACE.length, true);
+        for (String one : FACE) {
+            String call = one.substring(0, one.length() - 1);
+            DUE.is(call + " was found", bodies.containsKey(call), true);
+            int deep = depth(call, bodies, new ArrayList<>());
+            DUE.is(call + " goes at most eight deep: " + deep, deep <= 8, true);
+        }
+    }
+
+    private static int depth(String name, Map<String, String> bodies, List<String> open) {
+        if (!bodies.containsKey(name) || open.contains(name)) return 0;
+        open.add(name);
+        int deepest = 0;
+        for (Matcher one = Pattern.compile("\\b(\\w+)\\(").matcher(bodies.get(name)); one.find();) {
+            deepest = Math.max(deepest, depth(one.group(1), bodies, open));
+        }
+        open.remove(name);
+        return 1 + deepest;
     }
 
     /** A method begins at four or eight blanks, and ends with a brace at as many. */
